@@ -413,11 +413,12 @@ public final class PanNights {
     public int rests(int target) throws IndexOutOfBoundsException {
         checkPerson(target);
         summonTo(target);
-        game.clear();
         game.put(PAYS, COMES, priceOf(), thirstOf());
         game.put(BEARS, COMES, crowd.noise, crowd.noise);
         game.put(DANCES, COMES, now.of(target, WRONG), -1);
         game.put(PAYS, STAYS, 1, 0);
+        game.put(BEARS, STAYS, 0, 0);
+        game.put(DANCES, STAYS, 0, 0);
         return game.restingCells();
     }
 
@@ -1144,7 +1145,6 @@ public final class PanNights {
             came = 0;
             size = 0;
             noise = 0;
-            lastRound = 0;
             int free = others & ~atHome;
             admit(beginners & free, 0);
             for (int round = 1; round <= MOST_PEOPLE; round++) {
@@ -1262,11 +1262,6 @@ public final class PanNights {
     private static final class Game {
         private final int[] losses = new int[CELLS];
         private final int[] gains = new int[CELLS];
-
-        void clear() {
-            Arrays.fill(losses, 0);
-            Arrays.fill(gains, 0);
-        }
 
         void put(int choice, int side, int loss, int gain) {
             int cell = 2 * choice + side;

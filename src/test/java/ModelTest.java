@@ -243,7 +243,11 @@ public final class ModelTest {
         StringBuilder s = new StringBuilder();
         int pairs = random.nextInt(30) == 0 ? 21 : random.nextInt(4);
         for (int i = 0; i < pairs; i++) {
-            s.append((char) random.nextInt(8)).append((char) random.nextInt(8));
+            // mostly people that there are, and none of them twice
+            int people = Math.max(2, model.count(0) + (random.nextInt(20) == 0 ? 1 : 0));
+            int first = random.nextInt(people);
+            int second = random.nextInt(people);
+            s.append((char) first).append((char) (second == first ? (first + 1) % people : second));
         }
         if (random.nextInt(30) == 0) {
             s.append((char) random.nextInt(256));
