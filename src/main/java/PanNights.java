@@ -57,7 +57,8 @@ public final class PanNights {
     private static final int BOUGHT_OFF = 2;
     private static final int BORNE = 3;
 
-    // Things in a text: a number of 1 to 3 digits stands for itself (0 to 999), then come the words in the order of WORDS.
+    // Things in a text: a number of 1 to 3 digits stands for itself (0 to 999), words have codes in the order of WORDS,
+    // signs have their byte behind FIRST_SIGN.
     private static final String WORDS = "person needs thirst pride purse strange begins wrong feud with target rain watch fine ale night need spare pan if or and not wet who threshold borne";
     private static final int FIRST_WORD = 1000;
     private static final int WORD_PERSON = 1000;
@@ -806,7 +807,7 @@ public final class PanNights {
         }
     }
 
-    /** One night: how many came. Undrawn ones (nights ahead) have neither rain nor a magistrate and leave the seed alone. */
+    /** One night: how many came. One that is not drawn has neither rain nor a magistrate and leaves the seed alone. */
     private int passNight(Village v, boolean drawn) {
         v.wet = drawn && v.draw() % 100 < v.rain;
         int target = v.target;
@@ -1204,18 +1205,24 @@ public final class PanNights {
         }
 
         void remember(Village v) {
-            states[next].copy(v);
+            Village state = states[next];
+            if (state == null) {
+                return;
+            }
+            state.copy(v);
             next = (next + 1) % MOST_ACTS;
             size = Math.min(MOST_ACTS, size + 1);
         }
 
         boolean restore(Village v) {
-            if (size == 0) {
+            int latest = (next + MOST_ACTS - 1) % MOST_ACTS;
+            Village state = states[latest];
+            if (size == 0 || state == null) {
                 return false;
             }
+            v.copy(state);
+            next = latest;
             size--;
-            next = (next + MOST_ACTS - 1) % MOST_ACTS;
-            v.copy(states[next]);
             return true;
         }
 

@@ -60,13 +60,27 @@ public final class ModelTest {
                 text(spoiled(someLaw()), "law");
             } else if (kind < 14) {
                 text(somePairs(), random.nextBoolean() ? "heard" : "ask");
-            } else if (kind < 15) {
-                both(method("image"));
+            } else if (kind < 30) {
+                act();
             } else {
                 both(methods.get(random.nextInt(methods.size())));
             }
         }
         lookAtAll();
+    }
+
+    /** What fills the log, and what takes it back. */
+    private void act() throws Exception {
+        int person = random.nextInt(Math.max(1, model.count(0)));
+        switch (random.nextInt(8)) {
+            case 0: both(method("undo")); break;
+            case 1: both(method("image")); break;
+            case 2: both(method("back")); break;
+            default:
+                both(method("wrong"), person, 1 + random.nextInt(9));
+                both(method("name"), person);
+                both(method("nights"), 1 + random.nextInt(4));
+        }
     }
 
     private void lookAtAll() throws Exception {

@@ -1133,6 +1133,11 @@ public final class PromiseTest {
         x.name(1);
         x.nights(1);
         check.due("the oldest is gone", x.log(59, 0), 18);
+        x.undo();
+        check.due("and there again", x.log(59, 0), 17);
+        check.due("its target", x.log(59, 1), 1);
+        x.nights(1);
+        check.due("and gone again", x.log(59, 0), 18);
         check.due("led(1)", x.led(1, false), 3);
         check.due("led(1) night", x.led(1, true), 77);
     }
@@ -1236,6 +1241,19 @@ public final class PromiseTest {
         check.due("rows of the image", x.count(13), 3);
         check.due("the latest row of the image", x.log(0, 1), 0);
         check.due("wet as in the image", x.count(4), 1);
+        // another row comes in the place of an undone one, which the image has still
+        x.wrong(0, 1);
+        x.name(0);
+        x.nights(1);
+        x.image();
+        x.undo();
+        x.wrong(1, 1);
+        x.name(1);
+        x.nights(1);
+        check.due("the other row", x.log(0, 1), 1);
+        x.back();
+        check.due("the row of the image", x.log(0, 1), 0);
+        check.due("rows", x.count(13), 4);
         x.nights(1);
         read(x, "rain 0", false);
         x.nights(1);
