@@ -1,11 +1,20 @@
-/** Counts what is not as due, and feeds texts. */
+import java.nio.file.Files;
+import java.nio.file.Path;
+import java.util.LinkedHashMap;
+import java.util.Map;
+
+/** Counts what is not as due, by the sentences of the document that it is due by. */
 final class Check {
     /** A call that may throw. */
     interface Call {
         Object make();
     }
 
+    private static final Path DOCUMENT = Path.of("../shared/DOC.md");
+
     private final String test;
+    private final Map<String, Integer> sentences = new LinkedHashMap<>();
+    private String sentence = "";
     private int asked = 0;
     private int wrong = 0;
 
@@ -22,12 +31,19 @@ final class Check {
         }
     }
 
+    /** The words of the document by which the next answers are due. */
+    void says(String words) {
+        sentence = words;
+        sentences.putIfAbsent(words, 0);
+    }
+
     void due(String what, Object got, Object want) {
         asked++;
+        sentences.computeIfPresent(sentence, (words, n) -> n + 1);
         if (!String.valueOf(got).equals(String.valueOf(want))) {
             wrong++;
             if (wrong <= 50) {
-                System.out.println(test + ": " + what + " answered " + got + ", due is " + want);
+                System.out.println(test + ": " + what + " answered " + got + ", due is " + want + (sentence.isEmpty() ? "" : " by: " + sentence));
             }
         }
     }
@@ -41,28 +57,36 @@ final class Check {
     }
 
     void close() {
-        System.out.println(test + ": " + asked + " answers, " + wrong + " not as due");
+        lookAtSentences();
+        System.out.println(test + ": " + asked + " answers" + (sentences.isEmpty() ? "" : " by " + sentences.size() + " sentences")
+            + ", " + wrong + " not as due");
         if (wrong != 0 || asked == 0) {
             System.exit(1);
         }
     }
 
-    /** The numbers of the feeds that bring a text, filled up with zeros. */
-    static int[] numbers(String text) {
-        int[] numbers = new int[(text.length() + 19) / 20 * 5];
-        for (int i = 0; i < text.length(); i++) {
-            numbers[i / 4] |= (text.charAt(i) & 255) << 24 - i % 4 * 8;
+    /** Each sentence stands in the document as it is told here, and something was asked by it. */
+    private void lookAtSentences() {
+        sentence = "";
+        if (sentences.isEmpty() || !Files.exists(DOCUMENT)) {
+            return;
         }
-        return numbers;
+        String document = plain(documentText());
+        for (Map.Entry<String, Integer> s : new LinkedHashMap<>(sentences).entrySet()) {
+            due("the document says: " + s.getKey(), document.contains(plain(s.getKey())), true);
+            due("something is asked by: " + s.getKey(), s.getValue() > 0, true);
+        }
     }
 
-    /** The tape has this text then, and nothing else. */
-    static void tape(PanNights x, String text) {
-        x.end(0);
-        int[] n = numbers(text);
-        for (int i = 0; i < n.length; i += 5) {
-            x.feed(n[i], n[i + 1], n[i + 2], n[i + 3], n[i + 4]);
+    private static String documentText() {
+        try {
+            return Files.readString(DOCUMENT);
+        } catch (java.io.IOException e) {
+            throw new AssertionError(e);
         }
-        x.end(text.length());
+    }
+
+    private static String plain(String text) {
+        return text.replaceAll("\\s+", " ");
     }
 }

@@ -112,7 +112,7 @@ public final class ModelTest {
 
     private void text(String text, String reader) throws Exception {
         both(method("end"), 0);
-        int[] n = Check.numbers(text);
+        int[] n = Cases.numbers(text);
         for (int i = 0; i < n.length; i += 5) {
             both(method("feed"), n[i], n[i + 1], n[i + 2], n[i + 3], n[i + 4]);
         }

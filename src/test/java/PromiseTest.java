@@ -1,18 +1,13 @@
 /** Each promise of the document by hand: ordinary inputs, the edges that it names, wrong inputs. */
-public final class PromiseTest {
-    private static final String OUT = "throws.IndexOutOfBoundsException";
-    private static final String ARG = "throws.IllegalArgumentException";
-    private static final String STATE = "throws.IllegalStateException";
-    private static final String NO_SUCH = "throws.NoSuchElementException";
-    private static final String UNSUPPORTED = "throws.UnsupportedOperationException";
-    private static final int[] FAR = {-1, 99, Integer.MIN_VALUE, Integer.MAX_VALUE};
-
+public final class PromiseTest extends Cases {
     // 0: needs 0; 1: needs 1; 2: needs 2, strange; 3: needs 5; 4: needs 3, begins
     private static final String FIVE = "person needs 0 thirst 3 pride 4 purse 50;person needs 1 thirst 2 pride 3 purse 20;"
         + "person needs 2 thirst 1 pride 8 purse 5 strange;person needs 5 thirst 0 pride 99 purse 0;"
         + "person needs 3 thirst 5 pride 2 purse 30 begins;wrong 1 3;wrong 4 2;feud 0 with 1;feud 1 with 0;feud 2 with 1;ale 3;fine 10";
 
-    private final Check check = new Check("PromiseTest");
+    private PromiseTest() {
+        super("PromiseTest");
+    }
 
     public static void main(String[] args) {
         PromiseTest t = new PromiseTest();
@@ -56,38 +51,8 @@ public final class PromiseTest {
         t.check.close();
     }
 
-    private static PanNights of(String village, String law) {
-        PanNights x = new PanNights();
-        Check.tape(x, village);
-        x.village();
-        if (law != null) {
-            Check.tape(x, law);
-            x.law();
-        }
-        return x;
-    }
-
     private static PanNights five() {
         return of(FIVE, null);
-    }
-
-    private static String times(String text, int n) {
-        StringBuilder s = new StringBuilder();
-        for (int i = 0; i < n; i++) {
-            s.append(i == 0 ? "" : ";").append(text);
-        }
-        return s.toString();
-    }
-
-    private String read(PanNights x, String text, boolean law) {
-        Check.tape(x, text);
-        return Check.answer(() -> law ? x.law() : x.village());
-    }
-
-    private void facts(PanNights x, int person, int... want) {
-        for (int what = 0; what < want.length; what++) {
-            check.due("person(" + person + ", " + what + ")", x.person(person, what), want[what]);
-        }
     }
 
     // ---- promise 1, 52
@@ -295,7 +260,7 @@ public final class PromiseTest {
         check.due("fault of 13", x.fault(), 84);
         check.due("6 deep", read(x, "pan 1 if not(not(not(wet)))and not not not not not not wet", true), 1);
         check.due("as long as may be", read(x, "pan 1 if " + "1+".repeat(194) + "1<1", true), 1);
-        Check.tape(x, "pan 31");
+        tape(x, "pan 31");
         Check.answer(() -> x.law());
         check.due("used up by a wrong one", x.end(1), false);
     }
@@ -809,21 +774,13 @@ public final class PromiseTest {
     }
 
     private String hear(PanNights x, int target, boolean sure, int... bytes) {
-        Check.tape(x, pairs(bytes));
+        tape(x, bytes(bytes));
         return Check.answer(() -> x.heard(target, sure));
     }
 
     private String asked(PanNights x, int target, int... bytes) {
-        Check.tape(x, pairs(bytes));
+        tape(x, bytes(bytes));
         return Check.answer(() -> x.ask(target));
-    }
-
-    private static String pairs(int... bytes) {
-        StringBuilder s = new StringBuilder();
-        for (int b : bytes) {
-            s.append((char) b);
-        }
-        return s.toString();
     }
 
     // ---- promise 30
@@ -865,7 +822,7 @@ public final class PromiseTest {
         check.due("no such one", hear(x, 5, true, 4, 4), OUT);
         check.due("used up", x.end(1), false);
         check.due("no such one", hear(x, -1, true), OUT);
-        Check.tape(x, pairs(4, 4));
+        tape(x, bytes(4, 4));
         Check.answer(() -> x.heard(1, true));
         check.due("used up by a wrong one", x.end(1), false);
         check.due("fault is of texts", x.fault(), -1);
@@ -1197,7 +1154,7 @@ public final class PromiseTest {
         check.due("no 13th", x.undo(), false);
         check.due("three stay", x.person(0, 3), 53);
         x.give(0, 1);
-        Check.tape(x, "fine 31");
+        tape(x, "fine 31");
         Check.answer(() -> x.village());
         check.due("a wrong text forgets nothing", x.count(14), 1);
         x.feed(0, 0, 0, 0, 0);

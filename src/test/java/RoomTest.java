@@ -19,9 +19,9 @@ public final class RoomTest {
         CHECK.due("few elements", room[1] < 10000, true);
         String person = "person needs 1 thirst 9 pride 99 purse 999 strange begins";
         for (int i = 0; i < 4; i++) {
-            Check.tape(x, person + ";" + person + ";wrong 0 9;target 0;rain 50;watch 50");
+            Cases.tape(x, person + ";" + person + ";wrong 0 9;target 0;rain 50;watch 50");
             x.village();
-            Check.tape(x, "pan 1 if not (wet or who + 1 < 3) and thirst > 2;need 1 if wet");
+            Cases.tape(x, "pan 1 if not (wet or who + 1 < 3) and thirst > 2;need 1 if wet");
             x.law();
         }
         long before = allocated();
