@@ -387,7 +387,7 @@ public final class LawBoundaryTest extends Cases {
 
     private void borne() {
         check.says("borne: BORNE (0, if that other one is not the TARGET).");
-        PanNights x = of(times(person(8, 0, 99, 0), 3) + ";target 1", "pan 1 if borne > 0;pan 2 if borne > 1;pan 4 if borne > 2");
+        PanNights x = of(times(person(8, 0, 99, 0), 3) + ";target 1", "pan 1 if borne > 0;pan 2 if borne > 1;pan 4 if borne > 2;pan 8 if 1 + borne < 1");
         int[] want = {1, 2, 4};
         for (int nights = 0; nights < 3; nights++) {
             check.due("against the target after " + nights, x.against(0, 1, true), want[nights]);

@@ -276,6 +276,10 @@ public final class NightBoundaryTest extends Cases {
         for (int p = 0; p < want.length; p++) {
             check.due("thirst of " + p, x.person(p, 1), want[p]);
         }
+        PanNights last = of(person(0, 5, 0, 0) + ";" + person(0, 6, 0, 99) + ";target 1", null);
+        last.nights(1);
+        check.due("thirst of the first", last.person(0, 1), 4);
+        check.due("thirst of the target", last.person(1, 1), 6);
     }
 
     private void noiseByFour() {
@@ -324,6 +328,7 @@ public final class NightBoundaryTest extends Cases {
         check.due("borne", x.count(6), 2);
         x.give(0, 9);
         x.nights(1);
+        check.says("(e) If there is a TARGET yet");
         check.due("bought off in the third night", x.log(0, 3), 2);
         check.due("no target", x.count(5), -1);
         check.due("borne", x.count(6), 0);
@@ -541,6 +546,8 @@ public final class NightBoundaryTest extends Cases {
         PanNights later = of(targeted(12, 4, 2), "pan 4");
         check.due("bought off in the second", later.ends(), 2);
         check.due("nothing stays", later.count(5), 0);
+        check.due("though it would be fined", of(targeted(2, 4, 2) + ";watch 100", null).ends(), 1);
+        check.due("though it would rain", of(person(8, 0, 1, 2) + ";" + person(0, 0, 0, 0) + ";target 0;rain 100", "need 1 if wet").ends(), 1);
         check.due("nobody comes: three", of(times(person(8, 0, 0, 9), 2) + ";target 0", null).ends(), 3);
     }
 

@@ -16,6 +16,7 @@ public final class QuestionBoundaryTest extends Cases {
         t.roundsOfNone();
         t.whenNone();
         t.loudOfNone();
+        t.setsOfNone();
         t.noSuchPerson();
         t.bothAreOne();
         t.fewestBounds();
@@ -153,7 +154,7 @@ public final class QuestionBoundaryTest extends Cases {
     }
 
     private void loudOfNone() {
-        check.says("LOUD to one: NOISE.");
+        check.says("NOISE: PANS of all who came, together.");
         PanNights x = of(STUBBORN, "pan 30");
         check.due("nobody", x.loud(0), 0);
         x.begin(0, true);
@@ -161,6 +162,21 @@ public final class QuestionBoundaryTest extends Cases {
         check.due("to another one", x.loud(1), 31);
         x.begin(1, true);
         check.due("two", x.loud(2), 62);
+    }
+
+    private void setsOfNone() {
+        check.says("Sets are bits; of none they count for nothing.");
+        PanNights x = of(times(person(8, 0, 1, 0), 2), null);
+        check.due("nobody comes", x.comes(0), 0);
+        check.due("no beginners are needed", x.fewest(0, 0), 0);
+        check.due("nobody is to be kept", x.keep(0), 0);
+        check.due("nobody is sure", hear(x, 0, true, ""), 0);
+        check.due("nobody has a feud", x.feuded(0), 0);
+        check.due("no beginners", x.count(11), 0);
+        check.says("in round 0 these come");
+        x.begin(1, true);
+        check.due("a beginner comes", x.comes(0), 0b10);
+        check.due("in round 0", x.when(1, 0), 0);
     }
 
     private void noSuchPerson() {
@@ -292,6 +308,7 @@ public final class QuestionBoundaryTest extends Cases {
         PanNights x = needing(8, 1);
         x.begin(1, true);
         check.due("a beginner kept at home", x.tips(0), 1);
+        check.due("0 to another one", of(times(person(0, 0, 0, 0), 3), null).tips(1), 0);
         check.due("the last of seven", of(times(person(1, 0, 0, 0), 7) + ";" + person(0, 0, 0, 0), null).tips(0), 7);
     }
 
@@ -519,6 +536,9 @@ public final class QuestionBoundaryTest extends Cases {
         // 2 needs one more beside 1, which begins: {1, 3}, {1, 4}, {1, 3, 4}
         check.due("sets", hear(needing(8, 2, 8, 8), 0, false, bytes(1, 2)), 3);
         check.due("of three sets 2 to 1: the least of those", asked(needing(8, 2, 8, 8), 0, bytes(1, 2)), 3);
+        // {}, {1}, {1, 3}, {1, 4}, {1, 3, 4}: 1 parts them 4 to 1, 3 and 4 both 3 to 2
+        check.due("five sets", hear(needing(0, 1, 0, 0), 0, false, bytes(1, 2)), 5);
+        check.due("not the first who parts, but who parts best", asked(needing(0, 1, 0, 0), 0, bytes(1, 2)), 3);
     }
 
     private void askNone() {
@@ -605,6 +625,9 @@ public final class QuestionBoundaryTest extends Cases {
             x.feud(p, -1);
         }
         check.due("none any more", x.hated(), -1);
+        x.feud(7, 1);
+        x.feud(6, 0);
+        check.due("of two the first of all", x.hated(), 0);
     }
 
     // ---- promises 36 to 39, 43
@@ -639,6 +662,7 @@ public final class QuestionBoundaryTest extends Cases {
         check.due("of several who need 8", of(STUBBORN, null).brave(0), 1);
         check.due("the last one", of(times(person(1, 0, 0, 0), 7) + ";" + person(0, 0, 0, 0), null).brave(0), 7);
         check.due("not the told one", of(times(person(1, 0, 0, 0), 7) + ";" + person(0, 0, 0, 0), null).brave(7), 0);
+        check.due("not the first of all", of(person(5, 0, 0, 0) + ";" + person(0, 0, 0, 0) + ";" + person(3, 0, 0, 0), null).brave(1), 2);
         check.due("by far", of(STUBBORN, times("need 30", 12)).brave(7), 0);
         check.due("spared to 0", of(person(8, 0, 0, 0) + ";" + person(5, 0, 0, 0) + ";" + person(3, 0, 0, 0), "spare 5").brave(0), 1);
     }
@@ -663,6 +687,7 @@ public final class QuestionBoundaryTest extends Cases {
         check.due("a half", needing(0, 0).share(1, 0), 50);
         check.due("a third", needing(0, 0, 0).share(2, 0), 33);
         check.due("a seventh", of(EIGHT, null).share(7, 0), 14);
+        check.due("a seventh of the first", of(EIGHT, null).share(0, 7), 14);
         PanNights x = of(times(person(0, 0, 0, 0), 3), "pan 1 if who < 2");
         check.due("two thirds", x.share(1, 0), 66);
         PanNights loud = of(times(person(0, 0, 0, 0), 3), times("pan 30 if who < 2", 12));

@@ -129,6 +129,7 @@ public final class VillageBoundaryTest extends Cases {
         fault(x, false, text.replace("@", "0000"), place);
         fault(x, false, text.replace("@", "1000"), place);
         fault(x, false, text.replace("@", "x"), place);
+        fault(x, false, text.replace("@", "person"), place);
         fault(x, false, text.replace("@", ";"), place);
         fault(x, false, text.substring(0, place), place);
         check.due("texts", x.count(1), most == 999 ? was + 1 : was);
@@ -393,6 +394,14 @@ public final class VillageBoundaryTest extends Cases {
             fault(x, false, line + " " + line, line.length() + 1);
             x = of(TWO, null);
         }
+        check.says("(a number of more digits, or out of its bounds, or that tells none that can be;");
+        fault(x, false, "rain 1000", 5);
+        fault(x, false, "rain 0100", 5);
+        fault(x, false, "rain 101", 5);
+        fault(x, false, "rain 100", -1);
+        fault(x, false, "target 2", 7);
+        fault(x, false, "target 001", -1);
+        fault(x, false, "feud 0 with 0", 12);
         check.says("a word that is none");
         for (String word : new String[] {"pan", "need", "spare", "if", "needs", "thirst", "pride", "purse", "strange", "begins", "with", "who", "a", "zzz"}) {
             fault(x, false, word + " 1", 0);
