@@ -231,6 +231,9 @@ public final class TapeBoundaryTest extends Cases {
         fault(x, false, " ".repeat(396) + "ale;", 399);
         fault(x, false, " ".repeat(399) + ";", 399);
         fault(x, false, "ale 1;" + " ".repeat(10), 16);
+        // each byte of a full tape is a thing
+        fault(x, false, ";".repeat(400), 0);
+        fault(x, true, "(".repeat(400), 0);
         fault(x, true, "pan" + " ".repeat(397), 400);
         fault(x, true, " ".repeat(391) + "pan 1 if " , 400);
         fault(x, true, " ".repeat(390) + "pan 1 if (", 400);
