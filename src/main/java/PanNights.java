@@ -1205,7 +1205,7 @@ public final class PanNights {
         }
 
         void remember(Village v) {
-            Village state = states[next];
+            Village state = stateAt(next);
             if (state == null) {
                 return;
             }
@@ -1216,8 +1216,8 @@ public final class PanNights {
 
         boolean restore(Village v) {
             int latest = (next + MOST_ACTS - 1) % MOST_ACTS;
-            Village state = states[latest];
-            if (size == 0 || state == null) {
+            Village state = stateAt(latest);
+            if (size <= 0 || state == null) {
                 return false;
             }
             v.copy(state);
@@ -1228,6 +1228,10 @@ public final class PanNights {
 
         void forget() {
             size = 0;
+        }
+
+        private Village stateAt(int index) {
+            return index >= 0 && index < states.length ? states[index] : null;
         }
     }
 
